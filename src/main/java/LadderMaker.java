@@ -691,7 +691,7 @@ public final class LadderMaker {
         }
 
         static long reciprocal(long a) {
-            return quotient(ONE, a);
+            return below(a) == 0 ? TOO_WIDE : of(below(a), above(a));
         }
 
         static long negative(long a) {
@@ -725,12 +725,6 @@ public final class LadderMaker {
 
         long at(int power) {
             return isWithin(power, 0, MOST_POWER) ? coefficients[power] : Fractions.ZERO;
-        }
-
-        void addTerm(int power, long number) {
-            if (isWithin(power, 0, MOST_POWER)) {
-                coefficients[power] = Fractions.sum(coefficients[power], Fractions.of(number, 1));
-            }
         }
 
         int highest() {
@@ -1161,7 +1155,14 @@ public final class LadderMaker {
                 return PART_BELOW_NOTHING - made.size;
             }
             addPartOf(h, q, made);
-            return takeAway(q, fromHighest ? h : -h, made);
+            if (!a.addTimes(b, Fractions.negative(q), fromHighest ? h : -h)) {
+                return WIDE;
+            }
+            if (!a.isZero()) {
+                return GOES_ON;
+            }
+            made.endWith(shunt ? OPEN : SHORT, Fractions.ZERO);
+            return FINE;
         }
 
         // Turned round, the least powers are the greatest: so one way of dividing serves both forms.
@@ -1188,17 +1189,6 @@ public final class LadderMaker {
             a = b;
             b = other;
             shunt = !shunt;
-        }
-
-        private int takeAway(long q, int raised, Ladder made) {
-            if (!a.addTimes(b, Fractions.negative(q), raised)) {
-                return WIDE;
-            }
-            if (!a.isZero()) {
-                return GOES_ON;
-            }
-            made.endWith(shunt ? OPEN : SHORT, Fractions.ZERO);
-            return FINE;
         }
     }
 
@@ -1251,8 +1241,8 @@ public final class LadderMaker {
             return true;
         }
 
-        private boolean isDigit() {
-            return isWithin(look(), '0', '9');
+        private static boolean isDigit(int sign) {
+            return sign >= '0' && sign <= '9';
         }
 
         private boolean readPoly(Poly made) {
@@ -1278,21 +1268,22 @@ public final class LadderMaker {
             int power = 0;
             if (pass('s')) {
                 power = 1;
-                if (isDigit()) {
+                if (isDigit(look())) {
                     power = look() - '0';
                     place++;
                 }
             }
-            made.addTerm(power, isNegative ? -number : number);
+            long more = Fractions.of(isNegative ? -number : number, 1);
+            made.coefficients[power] = Fractions.sum(made.coefficients[power], more);
             return true;
         }
 
         private boolean readNumber() {
-            if (!isDigit() || look() == '0') {
+            if (!isDigit(look()) || look() == '0') {
                 return false;
             }
             number = 0;
-            for (int digits = 0; digits < MOST_DIGITS && isDigit(); digits++) {
+            for (int digits = 0; digits < MOST_DIGITS && isDigit(look()); digits++) {
                 number = 10 * number + look() - '0';
                 place++;
             }

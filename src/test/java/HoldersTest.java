@@ -109,8 +109,10 @@ public final class HoldersTest {
         x.hold(2, 0, 0);
         due.is(39, "over a part", x.row(2, 3), 3);
         due.is(39, "it", x.get(2, 2), 0);
+        x.put(2, 0, 9);
         x.put(2, 1, 9);
         x.row(2, 1);
+        due.is(39, "all 0 anew", x.get(2, 0), 0);
         x.row(2, 2);
         due.is(39, "all 0 behind a shorter one", x.get(2, 1), 0);
     }
@@ -226,6 +228,19 @@ public final class HoldersTest {
         due.is(43, "one number", x.judge(1, 0), 0);
         x.row(1, 0);
         due.is(43, "an empty row", x.judge(1, 0), 0);
+        Due.ladder(x, "l1,l1,l1,l1;s");
+        x.row(1, 8);
+        for (int i = 0; i < 8; i++) {
+            x.put(1, i, 1);
+        }
+        due.is(43, "all four are so", x.judge(1, 1), Due.NOT);
+        x.row(1, 7);
+        for (int i = 0; i < 7; i++) {
+            x.put(1, i, 1);
+        }
+        due.is(43, "the last one has one number", x.judge(1, 1), 3);
+        x.forget(1);
+        Due.ladder(x, "l6/4,C2;s");
         due.is(43, "ladder 1", x.judge(0, 1), Due.BAD);
         due.is(43, "ladder -1", x.judge(0, -1), Due.BAD);
         due.is(43, "BAD ahead of -11", x.judge(5, 1), Due.BAD);
@@ -270,7 +285,7 @@ public final class HoldersTest {
         x.put(0, 0, 8);
         x.hold(1, 0, 0);
         x.forget(0);
-        Due.ratio(x, "deterministic");
+        x.wipe();
         Due.ratio(x, "s9/2");
         x.stock(0, 2, 1, 9, 9);
         x.stock(1, 1, 1, 9, 9);

@@ -102,6 +102,12 @@ public final class LaddersTest {
         due.is(17, "WIDE ahead of NOT", x.multiply(3), Due.WIDE);
         Due.ladder(x, "l1/9999,C1/9999,l1/9999;s");
         due.is(17, "wide below the line", x.multiply(4), Due.WIDE);
+        // what is wide last of all: v times Y of the first part, X being added to already
+        LadderMaker y = new LadderMaker();
+        Due.ladder(y, "c9999,c9999,C9999;o");
+        due.is(17, "wide in Y alone", y.multiply(0), Due.WIDE);
+        Due.ladder(y, "R9999,R9999,r1;r9999");
+        due.is(17, "wide in X alone", y.multiply(1), Due.WIDE);
         x.close(0, 0, 0, 0);
         for (int k = 0; k < 6; k++) {
             due.is(17, "multiply", x.multiply(0), k);
@@ -184,6 +190,13 @@ public final class LaddersTest {
         due.is(20, "ladder 2", x.band(2, 1, 1, 1, 1), Due.BAD);
         due.is(20, "ladder -1", x.band(-1, 1, 1, 1, 1), Due.BAD);
         due.is(20, "it has a series condenser", x.band(1, 1, 1, 1, 1), Due.STATE);
+        Due.ladder(x, "L1,l1;s");
+        due.is(20, "a shunt coil is the first", x.band(2, 1, 1, 1, 1), Due.STATE);
+        x.turn(2);
+        due.is(20, "a shunt coil is the last", x.band(3, 1, 1, 1, 1), Due.STATE);
+        x.forget(1);
+        Due.ladder(x, "l1;s");
+        Due.ladder(x, "l1;s");
         Due.ladder(x, "l1,l1,l1,l1,l1,l1,R1,l1,L1;s");
         due.is(20, "STATE ahead of -300", x.band(2, 1, 1, 1, 1), Due.STATE);
         Due.ladder(x, "l1,l1,l1,l1,l1,l1,R9999;s");
@@ -223,7 +236,7 @@ public final class LaddersTest {
         }
         due.is(21, "ladder 2", x.dull(2, 1, 1), Due.BAD);
         due.is(21, "ladder -1", x.dull(-1, 1, 1), Due.BAD);
-        Due.ladder(x, "l1,c1;s");
+        Due.ladder(x, "c1,l1;s");
         due.is(21, "a series condenser", x.dull(2, 1, 1), Due.STATE);
         Due.ladder(x, "C1,C1,C1,C1,C1,C1,C1,L1;s");
         due.is(21, "a shunt coil, STATE ahead of -300", x.dull(3, 1, 1), Due.STATE);

@@ -40,6 +40,11 @@ public final class RatiosTest {
         x.multiply(1);
         due.is(6, "power 12", x.degree(3, 0), 12);
         due.is(6, "power 11", x.degree(3, 2), 11);
+        Due.ladder(x, "L1,L1,L1,L1,L1,L1,L1,L1,L1,L1,L1,L1;r1");
+        x.multiply(2);
+        due.isText(6, "it", Due.ratioText(x, 4), "12:1/1 | 12:1/1 11:12/1");
+        due.is(6, "low of 12", x.degree(4, 1), 12);
+        due.is(6, "low of 11", x.degree(4, 3), 11);
     }
 
     private static void coefficient() {
@@ -90,6 +95,22 @@ public final class RatiosTest {
         Due.ladder(y, "l2,C1,l1,C1,l1,C1,l1,C1,l1,C1,l1,C1;r1");
         y.multiply(1);
         due.is(8, "great powers that differ", y.same(0, 2), 0);
+        // what differs at one great power alone: 18, then 22
+        LadderMaker z = new LadderMaker();
+        Due.ratio(z, "s9+s/s9");
+        Due.ratio(z, "2s9+s/s9");
+        due.is(8, "they differ at power 18", z.same(0, 1), 0);
+        Due.ladder(z, "c1,c1,c1,c1,c1,c1,c1,c1,c1,c1,c1,r1;s");
+        Due.ladder(z, "c1,c1,c1,c1,c1,c1,c1,c1,c1,c1,c1,r2;s");
+        z.multiply(0);
+        z.multiply(1);
+        due.isText(8, "it", Due.ratioText(z, 3), "11:2/1 10:11/1 | 11:1/1");
+        due.is(8, "they differ at power 22", z.same(2, 3), 0);
+        Due.ladder(z, "L1,L1,L1,L1,L1,L1,L1,L1,L1,L1,L1,L1;r1");
+        z.multiply(2);
+        z.stretch(4, 1, 1, 2, 1);
+        due.is(8, "power 12 alone is above", z.same(4, 5), 0);
+        due.is(8, "power 12 alone is above", z.same(5, 5), 1);
     }
 
     private static void sameWide() {
@@ -204,51 +225,24 @@ public final class RatiosTest {
 
     private static void divideWide() {
         LadderMaker x = new LadderMaker();
-        Due.ratio(x, "9999s/1");
-        x.stretch(0, 1, 9999, 10, 1);
-        due.is(9, "999800010 fits", x.coefficient(1, 0, 1, 0), 999800010);
-        // with 1 over 9999 below q is 999800010 times 9999
-        Due.ratio(x, "s9+9999s/s2+s");
-        x.stretch(2, 9999, 1, 1, 1);
-        due.is(9, "9999 over 9999, nine times, is wide", x.count(1), 3);
-        LadderMaker y = new LadderMaker();
-        Due.ratio(y, "s2/s+9999");
-        Due.ratio(y, "s2/s+9973");
-        // l1, rest -9999s; q below 0
-        due.is(9, "q below 0", y.divide(0, 0), -101);
-        // q itself: 1/899820009 over 899820009
-        Due.ratio(y, "s2/9999");
-        y.stretch(2, 9999, 1, 1, 1);
-        due.is(9, "1 over 99980001", y.coefficient(3, 0, 2, 1), 99980001);
-        Due.ladder(y, "C9999;r1");
-        // 99980001 of power 2, 9999 of power 1: s over w twice, w 1/9999
-        Due.ratio(y, "s2+s/9999s");
-        y.stretch(4, 1, 9999, 1, 9999);
-        due.isText(9, "it", Due.ratioText(y, 5), "2:9999/1 1:1/1 | 1:99980001/1");
-        due.is(9, "a remainder that fits", y.divide(5, 0), 1);
-        y.forget(0);
-        // A 7s2+9991s+9973, B 9967s+9949 by w 1/9999: q 7 over 9967 times .. is wide in what is left
-        Due.ratio(y, "7s3+9991s2+9973s/9967s2+9949s+9941");
-        due.is(9, "divide till it is wide", y.divide(0, 0), Due.WIDE);
-        due.is(9, "no ladder came", y.count(2), 2);
-        // q wide though it is below 0
-        Due.ratio(y, "-9999s/9999");
-        y.stretch(1, 1, 9999, 10, 1);
-        due.isText(9, "it", Due.ratioText(y, 2), "1:-999800010/1 | 0:9999/1");
-        Due.ratio(y, "s/9998");
-        due.is(9, "q below 0 and not wide", y.divide(2, 0), -100);
-        Due.ratio(y, "-9999s/9998s");
-        y.stretch(4, 9999, 1, 1, 9999);
-        due.isText(9, "it", Due.ratioText(y, 5), "1:-1/9999 | 1:9998/9999");
-        due.is(9, "below 0", y.divide(5, 0), -100);
-        LadderMaker z = new LadderMaker();
-        Due.ratio(z, "-9973s/9967");
-        z.stretch(0, 1, 9999, 1, 9949);
-        due.isText(9, "it", Due.ratioText(z, 1), "1:-99720027/9949 | 0:9967/1");
-        z.stretch(1, 9949, 1, 1, 1);
-        due.isText(9, "it", Due.ratioText(z, 2), "1:-99720027/98982601 | 0:9967/1");
-        due.is(9, "WIDE, as q is worked ahead of its sign", z.divide(2, 0), Due.WIDE);
-        due.is(9, "WIDE by form 1", z.divide(2, 1), Due.WIDE);
+        Due.ratio(x, "s2+s/9999s");
+        x.stretch(0, 1, 9999, 1, 9999);
+        due.isText(9, "it", Due.ratioText(x, 1), "2:9999/1 1:1/1 | 1:99980001/1");
+        due.is(9, "great numbers that fit", x.divide(1, 0), 0);
+        due.isText(9, "it", Due.ladderText(x, 0), "l1/9999,r1/99980001;s");
+        // what is left of A is wide at a later step
+        Due.ratio(x, "7s3+9991s2+9973s/9967s2+9949s+9941");
+        due.is(9, "what is left is wide", x.divide(2, 0), Due.WIDE);
+        due.is(9, "no ladder came", x.count(2), 1);
+        // q is below 0 and fits, then q is below 0 and wide: it is worked ahead of its sign
+        Due.ratio(x, "-9973s/9967");
+        x.stretch(3, 1, 9999, 1, 9949);
+        due.isText(9, "it", Due.ratioText(x, 4), "1:-99720027/9949 | 0:9967/1");
+        due.is(9, "q is below 0", x.divide(4, 0), -100);
+        x.stretch(4, 9949, 1, 1, 1);
+        due.isText(9, "it", Due.ratioText(x, 5), "1:-99720027/98982601 | 0:9967/1");
+        due.is(9, "q is wide", x.divide(5, 0), Due.WIDE);
+        due.is(9, "q is wide by form 1", x.divide(5, 1), Due.WIDE);
     }
 
     private static void invert() {
@@ -301,6 +295,14 @@ public final class RatiosTest {
         due.is(11, "it", x.coefficient(1, 0, 3, 1), 1000000000);
         due.is(11, "more below is", x.stretch(0, 1001, 1, 1, 1), Due.WIDE);
         due.is(11, "more above is", x.stretch(0, 1, 1001, 1, 1), Due.WIDE);
+        x.forget(0);
+        Due.ratio(x, "9999/1");
+        due.is(11, "r alone", x.stretch(0, 1, 1, 9999, 1), 1);
+        due.is(11, "wide by r alone", x.stretch(1, 1, 1, 9999, 1), Due.WIDE);
+        Due.ladder(x, "L1,L1,L1,L1,L1,L1,L1,L1,L1,L1,L1,L1;r1");
+        x.multiply(0);
+        due.is(11, "power 12", x.stretch(2, 1, 2, 3, 1), 3);
+        due.isText(11, "it", Due.ratioText(x, 3), "12:12288/1 | 12:4096/1 11:24576/1");
     }
 
     private static void shift() {
@@ -345,5 +347,10 @@ public final class RatiosTest {
         due.is(12, "wide on the way", x.shift(2, 9999, 1), Due.WIDE);
         due.is(12, "not wide", x.shift(2, 6000, 1), 3);
         due.isText(12, "it", Due.ratioText(x, 3), "1:149985/1 | 0:1/1");
+        Due.ladder(x, "L1,L1,L1,L1,L1,L1,L1,L1,L1,L1,L1,L1;r1");
+        x.multiply(0);
+        due.is(12, "power 12", x.shift(4, 1, 1), 5);
+        due.isText(12, "it", Due.poly(x, 5, 0), "12:1/1 11:12/1 10:66/1 9:220/1 8:495/1 7:792/1 6:924/1"
+                + " 5:792/1 4:495/1 3:220/1 2:66/1 1:12/1 0:1/1");
     }
 }

@@ -39,6 +39,7 @@ public final class StoreTest {
         for (int k = 3; k <= 10; k++) {
             due.is(28, "bin " + k, x.stock(0, 9 + k, 1, 1, 1), k);
         }
+        due.is(28, "the greatest of ten", x.bin(0, 9, 2), 19);
         due.is(28, "an 11th", x.stock(0, 9999, 1, 1, 1), Due.FULL);
         due.is(28, "one of the ten", x.stock(0, 2, 4, 8, 9), 10);
         due.is(28, "its count", x.bin(0, 0, 0), 8);
@@ -135,6 +136,12 @@ public final class StoreTest {
         due.is(31, "nothing lacks", x.build(0, 9), 0);
         due.is(31, "spent", x.count(4), 91 + 27 + 51);
         due.is(31, "the ladder stays", x.parts(0), 5);
+        Due.ladder(x, "l6,C6,l8,C8,l6;s");
+        x.stock(0, 6, 1, 1, 1);
+        x.stock(1, 6, 1, 1, 1);
+        x.stock(0, 8, 1, 1, 1);
+        x.stock(1, 8, 1, 1, 1);
+        due.is(31, "like values of unlike sorts", x.build(1, 9), 1);
     }
 
     private static void buildFull() {
