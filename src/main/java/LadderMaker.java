@@ -1039,13 +1039,23 @@ public final class LadderMaker {
         }
 
         long worthAt(long x) {
+            return workOut(x, false);
+        }
+
+        /** To be asked for a lossless ladder only. */
+        long reactanceAt(long w) {
+            return workOut(w, true);
+        }
+
+        private long workOut(long point, boolean isReactance) {
             long z = worthOfEnd();
             for (int k = size - 1; k >= 0; k--) {
-                long t = worthOfPart(k, x);
+                long t = isReactance ? reactanceOfPart(k, point) : worthOfPart(k, point);
+                // a part refuses the call even where what stands behind it makes it needless
                 if (Fractions.isWide(t)) {
                     return t;
                 }
-                z = shunts[k] ? addShuntWorth(z, t) : addSeries(z, t);
+                z = shunts[k] ? addShunt(z, t, isReactance) : addSeries(z, t);
                 if (Fractions.isWide(z)) {
                     return z;
                 }
@@ -1061,56 +1071,26 @@ public final class LadderMaker {
             return isRising(sorts[k], shunts[k]) ? t : Fractions.reciprocal(t);
         }
 
+        private long reactanceOfPart(int k, long w) {
+            long t = Fractions.product(w, values[k]);
+            return isRising(sorts[k], shunts[k]) ? t : Fractions.negative(Fractions.reciprocal(t));
+        }
+
         private static long addSeries(long z, long t) {
             return z == Fractions.INFINITE ? z : Fractions.sum(z, t);
         }
 
-        private static long addShuntWorth(long z, long t) {
+        private static long addShunt(long z, long t, boolean isReactance) {
             if (z == Fractions.ZERO) {
                 return z;
             }
-            if (z == Fractions.INFINITE) {
-                return Fractions.reciprocal(t);
+            // nothing goes on through what is INFINITE
+            long through = z == Fractions.INFINITE ? Fractions.ZERO : Fractions.reciprocal(z);
+            if (!isReactance) {
+                return Fractions.reciprocal(Fractions.sum(through, t));
             }
-            return Fractions.reciprocal(Fractions.sum(Fractions.reciprocal(z), t));
-        }
-
-        /** To be asked for a lossless ladder only. */
-        long reactanceAt(long w) {
-            long z = worthOfEnd();
-            for (int k = size - 1; k >= 0; k--) {
-                long t = reactanceOfPart(k, w);
-                if (Fractions.isWide(t)) {
-                    return t;
-                }
-                z = shunts[k] ? addShuntReactance(z, t) : addSeries(z, t);
-                if (Fractions.isWide(z)) {
-                    return z;
-                }
-            }
-            return z;
-        }
-
-        private long reactanceOfPart(int k, long w) {
-            long t = Fractions.product(w, values[k]);
-            if (isRising(sorts[k], shunts[k])) {
-                return t;
-            }
-            return Fractions.negative(Fractions.reciprocal(t));
-        }
-
-        private static long addShuntReactance(long z, long t) {
-            if (z == Fractions.ZERO) {
-                return z;
-            }
-            if (z == Fractions.INFINITE) {
-                return Fractions.negative(Fractions.reciprocal(t));
-            }
-            long u = Fractions.difference(t, Fractions.reciprocal(z));
-            if (u == Fractions.ZERO) {
-                return Fractions.INFINITE;
-            }
-            return Fractions.negative(Fractions.reciprocal(u));
+            long u = Fractions.difference(t, through);
+            return u == Fractions.ZERO ? Fractions.INFINITE : Fractions.negative(Fractions.reciprocal(u));
         }
     }
 
