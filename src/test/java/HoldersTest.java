@@ -13,6 +13,7 @@ public final class HoldersTest {
         judge();
         image();
         imageKeepsAll();
+        imageOfAllThatIsFull();
         count();
         due.end();
     }
@@ -315,6 +316,36 @@ public final class HoldersTest {
         x.build(0, 0);
         due.is(45, "what comes next does not change the image", x.undo(), 1);
         due.is(45, "wants", x.count(3), 2);
+    }
+
+    private static void imageOfAllThatIsFull() {
+        LadderMaker x = new LadderMaker();
+        for (int k = 0; k < 6; k++) {
+            Due.ladder(x, "r1,r2,r3,r4,r5,r6,r7,r8,r9,R1,R2,R3;r1");
+            Due.ratio(x, "s9/" + (k + 1));
+        }
+        for (int k = 1; k <= 10; k++) {
+            x.stock(0, k, 1, 1, 1);
+            x.stock(1, k, 2, 1, 1);
+            x.stock(2, k, 9999, 1, 1);
+        }
+        x.build(0, 1);
+        x.build(5, 2);
+        due.is(44, "all that is full", x.image(), 6);
+        due.is(45, "a want", x.arrive(23), 23);
+        x.stock(0, 10, 1, 99, 99);
+        x.forget(0);
+        x.forget(1);
+        due.is(45, "all that is full", x.undo(), 6);
+        due.is(45, "ratios", x.count(1), 6);
+        due.is(45, "the last ratio", x.coefficient(5, 1, 0, 0), 6);
+        due.is(45, "the last ladder", x.value(5, 11, 0), 3);
+        due.is(45, "the last bin", x.bin(0, 9, 1), 1);
+        due.is(45, "wants", x.count(3), 24);
+        due.is(45, "the last want", x.want(23, 2), 9);
+        due.is(45, "wants are full", x.build(0, 1), Due.FULL);
+        due.is(45, "one arrives", x.arrive(1), 1);
+        due.is(45, "the last want", x.want(22, 2), 9);
     }
 
     private static void count() {

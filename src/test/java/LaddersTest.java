@@ -213,6 +213,12 @@ public final class LaddersTest {
         Due.ladder(x, "r1,R1;o");
         due.is(20, "resistors alone", x.band(3, 9999, 1, 1, 9999), 4);
         due.isText(20, "it", Due.ladderText(x, 4), "r1/1,R1/1;o");
+        x.forget(1);
+        for (int k = 0; k < 4; k++) {
+            Due.ladder(x, "r1,r1,r1,r1,r1,r1,r1,r1,r1,r1,r1,R2;o");
+        }
+        due.is(20, "12 resistors", x.band(3, 9999, 1, 1, 9999), 4);
+        due.is(20, "parts(4)", x.parts(4), 12);
         Due.ladder(x, "c1;o");
         due.is(20, "FULL ahead of STATE", x.band(5, 1, 1, 1, 1), Due.FULL);
         due.is(20, "BAD ahead of FULL", x.band(5, 1, 1, 1, 0), Due.BAD);

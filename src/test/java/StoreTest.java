@@ -40,6 +40,8 @@ public final class StoreTest {
             due.is(28, "bin " + k, x.stock(0, 9 + k, 1, 1, 1), k);
         }
         due.is(28, "the greatest of ten", x.bin(0, 9, 2), 19);
+        due.is(30, "of ten bins", x.nearest(0, 9999, 1, 0), 19);
+        due.is(30, "of ten bins", x.nearest(0, 1, 9999, 1), 2);
         due.is(28, "an 11th", x.stock(0, 9999, 1, 1, 1), Due.FULL);
         due.is(28, "one of the ten", x.stock(0, 2, 4, 8, 9), 10);
         due.is(28, "its count", x.bin(0, 0, 0), 8);
