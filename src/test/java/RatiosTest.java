@@ -111,6 +111,15 @@ public final class RatiosTest {
         z.stretch(4, 1, 1, 2, 1);
         due.is(8, "power 12 alone is above", z.same(4, 5), 0);
         due.is(8, "power 12 alone is above", z.same(5, 5), 1);
+        // s12 / s12+12s11 and 2s12 / s12+24s11
+        z.close(2, 2, 2, 1);
+        z.forget(0);
+        z.multiply(2);
+        z.close(2, 2, 1, 1);
+        z.multiply(2);
+        due.isText(8, "it", Due.ratioText(z, 0), "12:2/1 | 12:1/1 11:24/1");
+        due.isText(8, "it", Due.ratioText(z, 1), "12:1/1 | 12:1/1 11:12/1");
+        due.is(8, "they differ at power 24 alone", z.same(0, 1), 0);
     }
 
     private static void sameWide() {
@@ -213,7 +222,6 @@ public final class RatiosTest {
         due.is(9, "multiply", x.multiply(2), 3);
         due.is(9, "a 13th part", x.divide(3, 0), -300);
         due.is(9, "count(2)", x.count(2), 3);
-        // r1 (12 times the same) can't be: h 0 with 1/1 ends at once
         Due.ratio(x, "5/5");
         due.is(9, "one resistor", x.divide(4, 0), 3);
         due.isText(9, "it", Due.ladderText(x, 3), "r1/1;s");
@@ -221,6 +229,13 @@ public final class RatiosTest {
         Due.ratio(x, "-s/-2");
         due.is(9, "both below 0", x.divide(5, 0), 4);
         due.isText(9, "it", Due.ladderText(x, 4), "l1/2;s");
+        // l1,r1,C1,R1 three times, and behind them s2: the step is looked at ahead of the 13th part
+        LadderMaker y = new LadderMaker();
+        Due.ratio(y, "s8+6s7+20s6+41s5+56s4+52s3+35s2+20s+8/s7+5s6+14s5+23s4+24s3+17s2+10s+5");
+        due.is(9, "a step of 2 behind 12 parts", y.divide(0, 0), -212);
+        // the same with 1 over s for s
+        Due.ratio(y, "8s8+20s7+35s6+52s5+56s4+41s3+20s2+6s+1/5s8+10s7+17s6+24s5+23s4+14s3+5s2+s");
+        due.is(9, "a step of 2 behind 12 parts by form 1", y.divide(1, 1), -212);
     }
 
     private static void divideWide() {
