@@ -506,13 +506,10 @@ public final class LadderMaker {
 
     public long get(int h, int i) {
         Holder holder = findHolder(h);
-        if (holder == null) {
+        if (holder == null || holder.content != HOLDS_ROW || !isWithin(i, 0, holder.size - 1)) {
             return NO;
         }
-        if (holder.content != HOLDS_ROW) {
-            return holder.tellNoRow();
-        }
-        return isWithin(i, 0, holder.size - 1) ? holder.numbers[i] : NO_SUCH_PLACE;
+        return holder.numbers[i];
     }
 
     public int copy(int h, int i, int g, int j, int n) {

@@ -129,30 +129,42 @@ public final class HoldersTest {
         due.is(41, "get", x.get(0, 0), Long.MIN_VALUE);
         due.is(40, "place 3", x.put(0, 3, 1), -13);
         due.is(40, "place -1", x.put(0, -1, 1), -13);
-        due.is(41, "place 3", x.get(0, 3), -13);
-        due.is(41, "place -1", x.get(0, -1), -13);
+        due.is(41, "place 3", x.get(0, 3), Due.NO);
+        due.is(41, "place -1", x.get(0, -1), Due.NO);
+        due.is(41, "place Integer.MAX_VALUE", x.get(0, Integer.MAX_VALUE), Due.NO);
+        due.is(41, "place Integer.MIN_VALUE", x.get(0, Integer.MIN_VALUE), Due.NO);
         due.is(40, "a part", x.put(1, 0, 1), -12);
-        due.is(41, "a part", x.get(1, 0), -12);
+        due.is(41, "a part", x.get(1, 0), Due.NO);
         due.is(40, "nothing", x.put(2, 0, 1), -11);
-        due.is(41, "nothing", x.get(2, 0), -11);
+        due.is(41, "nothing", x.get(2, 0), Due.NO);
         due.is(40, "-11 ahead of -13", x.put(2, -1, 1), -11);
-        due.is(41, "-12 ahead of -13", x.get(1, -1), -12);
+        due.is(40, "-12 ahead of -13", x.put(1, -1, 1), -12);
+        due.is(41, "nothing, and no place", x.get(2, -1), Due.NO);
+        due.is(41, "a part, and no place", x.get(1, -1), Due.NO);
         for (int wrong : NO_HOLDER) {
             due.is(40, "holder " + wrong, x.put(wrong, 0, 1), Due.BAD);
             due.is(41, "holder " + wrong, x.get(wrong, 0), Due.NO);
         }
         x.row(3, 0);
         due.is(40, "a row of 0", x.put(3, 0, 1), -13);
-        due.is(41, "a row of 0", x.get(3, 0), -13);
+        due.is(41, "a row of 0", x.get(3, 0), Due.NO);
         x.row(4, 3);
         due.is(41, "another row", x.get(4, 2), 0);
+        due.is(41, "a row dropped", x.drop(4), 2);
+        due.is(41, "what was in it", x.get(4, 2), Due.NO);
+        x.put(0, 1, 7);
+        x.hold(0, 0, 0);
+        due.is(41, "a part in a row's stead", x.get(0, 1), Due.NO);
+        x.row(0, 1);
+        due.is(41, "a place beyond a shorter row", x.get(0, 1), Due.NO);
+        due.is(41, "what was asked amiss changed nothing", x.get(0, 0), 0);
     }
 
     private static void rowIs(int promise, LadderMaker x, int h, long... want) {
         for (int i = 0; i < want.length; i++) {
             due.is(promise, "number " + i + " of the row of " + h, x.get(h, i), want[i]);
         }
-        due.is(promise, "the end of the row of " + h, x.get(h, want.length), -13);
+        due.is(promise, "the end of the row of " + h, x.get(h, want.length), Due.NO);
     }
 
     private static void copy() {

@@ -64,7 +64,7 @@ public final class ModelTest {
         "fit FULL", "first ok", "first NOT", "first STATE", "first WIDE", "stock ok", "stock FULL", "nearest ok",
         "nearest NO", "build ok", "build FULL", "arrive ok", "want ok", "want NOT", "cost ok", "cost NOT",
         "unlike ok", "unlike NO", "taken ok", "taken -11", "taken -12", "row -14", "put ok", "put -11", "put -12",
-        "put -13", "get -11", "get -12", "get -13", "copy ok", "copy -11", "copy -12", "copy -13", "judge ok",
+        "put -13", "get ok", "get NO", "copy ok", "copy -11", "copy -12", "copy -13", "judge ok",
         "judge NOT", "judge -11", "judge -12", "undo ok", "undo STATE", "worth NO", "worth ok", "react NO", "react ok"};
 
     private static Map<String, Method> methods(Class<?> type) {

@@ -1015,10 +1015,10 @@ final class PlainModel {
 
     long get(int h, int i) {
         if (noRow(h) != 0) {
-            return noRow(h) == BAD ? NO : noRow(h);
+            return NO;
         }
         long[] row = (long[]) holders[h];
-        return i < 0 || i >= row.length ? -13 : row[i];
+        return i < 0 || i >= row.length ? NO : row[i];
     }
 
     int copy(int h, int i, int g, int j, int n) {
