@@ -2,7 +2,9 @@ import java.io.IOException;
 import java.nio.file.Files;
 import java.nio.file.Path;
 import java.util.ArrayList;
+import java.util.HashMap;
 import java.util.List;
+import java.util.Map;
 import java.util.TreeSet;
 import java.util.regex.Matcher;
 import java.util.regex.Pattern;
@@ -32,6 +34,8 @@ public final class EdgesTest {
     private static int states = 0;
     private static int wrong = 0;
 
+    /** Lines that several scripts of a file begin with, by their names. */
+    private final Map<String, List<String>> blocks = new HashMap<>();
     private String title = "";
     private List<Call> made = new ArrayList<>();
     private Bench bench = new Bench();
@@ -64,21 +68,41 @@ public final class EdgesTest {
     }
 
     private void run(Path file) throws IOException {
+        List<String> block = null;
         for (String line : Files.readAllLines(file)) {
             String plain = line.trim();
             if (plain.isEmpty() || plain.startsWith("#")) {
                 continue;
             }
-            if (plain.startsWith("== ")) {
+            if (plain.startsWith(":: ")) {
+                block = new ArrayList<>();
+                blocks.put(plain.substring(3), block);
+            } else if (plain.startsWith("== ")) {
+                block = null;
                 begin(plain.substring(3));
-                continue;
-            }
-            Matcher is = IS.matcher(plain);
-            if (is.matches()) {
-                compareText(plain, is.group(1), Integer.parseInt(is.group(2)), is.group(3));
+            } else if (block != null) {
+                block.add(plain);
             } else {
-                runCall(plain);
+                runLine(plain);
             }
+        }
+    }
+
+    private void runLine(String line) {
+        if (line.startsWith("use ")) {
+            List<String> block = blocks.get(line.substring(4));
+            if (block == null) {
+                fail(title, "there is no block for: " + line);
+                return;
+            }
+            block.forEach(this::runLine);
+            return;
+        }
+        Matcher is = IS.matcher(line);
+        if (is.matches()) {
+            compareText(line, is.group(1), Integer.parseInt(is.group(2)), is.group(3));
+        } else {
+            runCall(line);
         }
     }
 

@@ -9,8 +9,10 @@ import java.util.TreeMap;
 
 /** Runs of calls drawn by a fixed seed, on LadderMaker and on PlainModel: all answers must be alike. */
 public final class ModelTest {
-    private static final int RUNS = 5000;
-    private static final int CALLS = 400;
+    private static final int RUNS = 9000;
+    // an object has 512 calls; the last ones look at a part of its state
+    private static final int DRAWN_CALLS = 320;
+    private static final int MOST_CALLS = 512;
     private static final int[] ODD = {Integer.MIN_VALUE, -3, -1, 0, 7, 41, 10000, Integer.MAX_VALUE};
 
     private final Random random;
@@ -18,6 +20,7 @@ public final class ModelTest {
     private final PlainModel model = new PlainModel();
     private final List<String> told = new ArrayList<>();
     private final int spread;
+    private int calls = 0;
 
     private static final Map<String, Method> MAKER = methods(LadderMaker.class);
     private static final Map<String, Method> MODEL = methods(PlainModel.class);
@@ -46,7 +49,7 @@ public final class ModelTest {
         if (args.length > 0) {
             System.out.println(SEEN);
         }
-        System.out.println("ModelTest: " + RUNS + " runs of " + CALLS + " calls are alike, "
+        System.out.println("ModelTest: " + RUNS + " runs of up to " + MOST_CALLS + " calls are alike, "
                 + missing + " kinds of answers were not met");
         if (missing > 0) {
             System.exit(1);
@@ -81,7 +84,7 @@ public final class ModelTest {
     }
 
     private boolean isAlike() throws ReflectiveOperationException {
-        for (int k = 0; k < CALLS; k++) {
+        while (calls < DRAWN_CALLS) {
             if (!drawCall()) {
                 return false;
             }
@@ -97,6 +100,10 @@ public final class ModelTest {
     }
 
     private boolean call(String name, Object... args) throws ReflectiveOperationException {
+        calls++;
+        if (calls > MOST_CALLS) {
+            throw new IllegalStateException("a run uses an object for more than 512 calls");
+        }
         Object got;
         try {
             got = MAKER.get(name).invoke(maker, args);
@@ -197,8 +204,10 @@ public final class ModelTest {
                 return call("react", ladder(), told(), told(), near(2));
             case 11: case 12:
                 return call("first", ladder(), near(3));
-            case 13: case 14: case 15:
-                return call("stock", near(3), told(), below(3) == 0 ? told() : 1, near(100), 1 + near(99));
+            case 13:
+                return below(8) == 0 ? fillBins(below(3)) : stock(near(3));
+            case 14: case 15:
+                return stock(near(3));
             case 16:
                 return call("bin", near(3), near(10), near(4));
             case 17:
@@ -218,6 +227,18 @@ public final class ModelTest {
             default:
                 return drawHolder();
         }
+    }
+
+    private boolean stock(int sort) throws ReflectiveOperationException {
+        return call("stock", sort, told(), below(3) == 0 ? told() : 1, near(100), 1 + near(99));
+    }
+
+    private boolean fillBins(int sort) throws ReflectiveOperationException {
+        boolean alike = true;
+        for (int k = 0; k < 14 && alike; k++) {
+            alike = stock(sort);
+        }
+        return alike;
     }
 
     private boolean drawHolder() throws ReflectiveOperationException {
@@ -330,33 +351,63 @@ public final class ModelTest {
     }
 
     private boolean stateIsAlike() throws ReflectiveOperationException {
-        boolean alike = true;
-        for (int what = 0; what <= 8; what++) {
-            alike = alike && call("count", what);
+        switch (below(5)) {
+            case 0:
+                return ratioIsAlike(below(6)) && ratioIsAlike(below(6));
+            case 1:
+                return ladderIsAlike(below(6)) && ladderIsAlike(below(6));
+            case 2:
+                return storeIsAlike();
+            case 3:
+                return holderIsAlike(below(6)) && holderIsAlike(below(6));
+            default:
+                return wantsAreAlike();
         }
-        for (int part = 0; part < 2; part++) {
-            for (int r = 0; r < 6; r++) {
-                for (int k = 0; k < 26; k++) {
-                    alike = alike && call("coefficient", r, k / 13, k % 13, part);
-                }
-                for (int k = -1; k < 12; k++) {
-                    alike = alike && call("value", r, k, part);
-                    alike = alike && call("part", r, k, part);
-                }
-            }
-        }
-        for (int k = 0; k < 24; k++) {
-            for (int what = 0; what < 5; what++) {
-                alike = alike && call("want", k, what);
-                alike = alike && call("bin", k % 3, k / 3, what);
-            }
-        }
-        for (int h = 0; h < 6; h++) {
-            for (int i = 0; i < 41; i++) {
-                alike = alike && call("get", h, i);
-            }
-            alike = alike && call("taken", h, 0) && call("drop", h);
+    }
+
+    private boolean ratioIsAlike(int r) throws ReflectiveOperationException {
+        boolean alike = call("count", 1);
+        for (int k = 0; k < 52 && alike; k++) {
+            alike = call("coefficient", r, k / 26, k / 2 % 13, k % 2);
         }
         return alike;
+    }
+
+    private boolean ladderIsAlike(int l) throws ReflectiveOperationException {
+        boolean alike = call("count", 2) && call("parts", l) && call("end", l);
+        for (int k = -1; k < 12 && alike; k++) {
+            alike = call("value", l, k, 0) && call("value", l, k, 1) && call("part", l, k, 0) && call("part", l, k, 1);
+        }
+        return alike;
+    }
+
+    private boolean storeIsAlike() throws ReflectiveOperationException {
+        boolean alike = true;
+        for (int what = 0; what <= 8 && alike; what++) {
+            alike = call("count", what);
+        }
+        for (int k = 0; k < 120 && alike; k++) {
+            alike = call("bin", k / 40, k / 4 % 10, k % 4);
+        }
+        return alike;
+    }
+
+    private boolean wantsAreAlike() throws ReflectiveOperationException {
+        boolean alike = call("count", 3) && call("count", 5);
+        for (int k = 0; k < 120 && alike; k++) {
+            alike = call("want", k / 5, k % 5);
+        }
+        return alike;
+    }
+
+    private boolean holderIsAlike(int h) throws ReflectiveOperationException {
+        boolean alike = true;
+        for (int kind = 0; kind < 4 && alike; kind++) {
+            alike = call("taken", h, kind);
+        }
+        for (int i = 0; i < 41 && alike; i++) {
+            alike = call("get", h, i);
+        }
+        return alike && call("drop", h);
     }
 }

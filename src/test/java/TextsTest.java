@@ -3,6 +3,7 @@ public final class TextsTest {
     private static final Due due = new Due("TextsTest");
 
     public static void main(String[] args) {
+        constants();
         newObject();
         feed();
         wipe();
@@ -11,6 +12,15 @@ public final class TextsTest {
         ladder();
         ladderFaults();
         due.end();
+    }
+
+    private static void constants() {
+        due.is(1, "BAD", LadderMaker.BAD, -1);
+        due.is(1, "NOT", LadderMaker.NOT, -2);
+        due.is(1, "FULL", LadderMaker.FULL, -3);
+        due.is(1, "STATE", LadderMaker.STATE, -5);
+        due.is(1, "WIDE", LadderMaker.WIDE, -6);
+        due.is(1, "NO", LadderMaker.NO, -9223372036854775808L);
     }
 
     private static void newObject() {

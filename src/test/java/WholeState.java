@@ -19,6 +19,7 @@ final class WholeState {
         state.lookAtHolders(3, 5);
         state.readTapeAsRatio();
         state.readTapeAsLadder();
+        state.goOn();
         long undone = Bench.behind(calls).x().undo();
         state.tell("the image", undone);
         if (undone >= 0) {
@@ -112,6 +113,30 @@ final class WholeState {
                 tell("holder " + h + " at " + i, b.x().get(h, i));
             }
             tell("holder " + h + " held", b.x().drop(h));
+        }
+    }
+
+    /** What comes next may tell of a trace that nothing else tells of. */
+    private void goOn() {
+        Bench b = Bench.behind(calls);
+        b.x().wipe();
+        b.x().feed(0x6C333B73, 4);
+        int ladder = b.x().ladder();
+        tell("the next ladder", ladder);
+        lookAtLadders(b, ladder, ladder);
+        tell("it is built", b.x().build(ladder, 4));
+        tell("the first want", b.x().want(0, 2));
+        tell("it is held", b.x().hold(0, ladder, 0));
+        b.x().wipe();
+        b.x().feed(0x32732F33, 4);
+        int ratio = b.x().ratio();
+        tell("the next ratio", ratio);
+        lookAtRatios(b, ratio, ratio);
+        tell("it is divided", b.x().divide(ratio, 0));
+        lookAtLadders(b, ladder + 1, ladder + 1);
+        tell("a row", b.x().row(5, 40));
+        for (int i = 0; i < 40; i++) {
+            tell("at " + i, b.x().get(5, i));
         }
     }
 
